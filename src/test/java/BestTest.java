@@ -11,6 +11,8 @@ public final class BestTest {
         promise23And24();
         worthOfDemandAndRoom();
         worthOfFlood();
+        greatReleases();
+        everyChangeIsSeen();
         Due.end("BestTest");
     }
 
@@ -151,6 +153,63 @@ public final class BestTest {
         Due.is("what", m.worth(3, 0, 0, 0), NO);
         Due.is("what", m.worth(-1, 0, 0, 0), NO);
         Due.is("CAP is as before", m.told(0), 12);
+    }
+
+    /** All of 21 units but one can be let go. */
+    private static void greatReleases() {
+        ReservoirMind m = new ReservoirMind();
+        m.put(0, 12);
+        m.put(1, 1);
+        m.put(3, 0);
+        m.inflow(0, 2, 9);
+        m.demand(0, 0, 9, 10, 0, 11);
+        m.demand(0, 0, 9, 10, 0, 11);
+        m.demand(0, 0, 1, 1, 0, 11);
+        Due.is("19 are let go", m.release(0, 12, 2), 19);
+        Due.is("for", m.best(0, 12, 2), Due.bits(181f));
+        m.demand(0, 0, 9, 1, 0, 11);
+        Due.is("20 are let go, and no more", m.release(0, 12, 2), 20);
+        Due.is("for", m.best(0, 12, 2), Due.bits(182f));
+        Due.is("18", m.would(0, 12, 2, 18), Due.bits(180f));
+        Due.is("20", m.would(0, 12, 2, 20), Due.bits(182f));
+    }
+
+    /** What was found once may not be answered any more when the reservoir has changed. */
+    private static void everyChangeIsSeen() {
+        ReservoirMind m = new ReservoirMind();
+        m.put(1, 1);
+        m.image();
+        Due.is("at first", m.best(0, 8, 1), Due.bits(24f));
+        m.inflow(0, 1, 0);
+        Due.is("inflow", m.best(0, 7, 1), Due.bits(21f));
+        m.month(0, 1, 5);
+        Due.is("flood", m.best(0, 7, 1), Due.bits(9f));
+        m.month(0, 0, 9);
+        Due.is("dries", m.best(0, 7, 1), Due.bits(3f));
+        m.demand(0, 0, 1, 9, 0, 0);
+        Due.is("demand", m.best(0, 7, 1), Due.bits(9f));
+        m.renew(0, 2, 11);
+        Due.is("renew", m.best(0, 7, 1), Due.bits(11f));
+        m.drop(0);
+        Due.is("drop", m.best(0, 7, 1), Due.bits(3f));
+        m.undo();
+        Due.is("undo", m.best(0, 7, 1), Due.bits(24f));
+        Due.read(m, "q0.000");
+        Due.is("read", m.best(0, 7, 1), Due.bits(21f));
+        m.put(1, 2);
+        Due.is("the horizon", m.best(0, 0, 0), Due.bits((3f + 6f + 12f) / 3f));
+        m.part(0, 2, 0);
+        Due.is("part", m.best(0, 0, 0), Due.bits((3f + 6f) / 2f));
+        Due.records(m, 0, 0, 4);
+        m.learn(0);
+        Due.is("learn", m.best(0, 0, 0), Due.bits((3f + 6f + 2f * 12f) / 4f));
+        m.put(3, 1);
+        Due.is("LEFT", m.best(0, 0, 0), Due.bits((1f + 2f + 2f * 4f) / 4f));
+        m.put(0, 3);
+        Due.is("CAP", m.best(0, 0, 0), Due.bits((1f + 2f + 2f * 3f) / 4f));
+        Due.is("what would spill", m.would(1, 0, 2, 0), Due.bits(1f));
+        m.put(2, 9);
+        Due.is("HARM", m.would(1, 0, 2, 0), Due.bits(-6f));
     }
 
     private static void worthOfFlood() {

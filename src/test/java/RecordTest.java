@@ -6,6 +6,7 @@ public final class RecordTest {
     public static void main(String[] args) {
         promise26();
         replayByTold();
+        twoYears();
         replayByBest();
         replayRefusals();
         promise28();
@@ -60,6 +61,23 @@ public final class RecordTest {
         // 8 behind month 10, 7 behind 11, of which 6 dry away in month 0
         all(m, "month 12 is month 0", new int[] {0, 0, 1, 12}, 7, 20, 0, 0, 2, 0);
         all(m, "month 12 is month 0", new int[] {0, 0, 1, 13}, 0, 30, 0, 6, 3, 0);
+    }
+
+    private static void twoYears() {
+        ReservoirMind m = new ReservoirMind();
+        m.put(0, 12);
+        int[] year = new int[24];
+        year[23] = 7;
+        Due.records(m, 2, year);
+        m.demand(0, 0, 1, 3, 11, 11);
+        all(m, "behind 23", new int[] {2, 12, 1, 23}, 0, 3, 0, 0, 12, 0);
+        all(m, "behind 24", new int[] {2, 12, 1, 24}, 6, 6, 0, 0, 13, 0);
+        Due.is("wanted twice, had twice", m.sure(2, 12, 1, 0, 0), 1);
+        Due.is("wanted twice, had twice", m.sure(2, 12, 1, 0, 1), 1);
+        Due.is("wanted twice, had once", m.sure(2, 11, 1, 0, 0), 1);
+        Due.is("wanted twice, had once", m.sure(2, 11, 1, 0, 1), 2);
+        Due.records(m, 3, 0, 9, 9);
+        all(m, "least behind the first", new int[] {3, 3, 3, 2}, 6, 0, 0, 0, 6, 0);
     }
 
     private static void replayByBest() {
@@ -146,6 +164,8 @@ public final class RecordTest {
         m.learn(1);
         Due.is("by inflows of each month", m.partOf(0, 1), 2);
         Due.is("by inflows of each month", m.partOf(0, 0), 1);
+        Due.records(m, 3, 9, 9, 9);
+        Due.is("the last record", m.learn(3), 3);
         Due.is("record", m.learn(4), NONE);
         Due.is("record", m.learn(-1), NONE);
     }

@@ -7,6 +7,7 @@ public final class ServeTest {
         promise15();
         promise16();
         gainsByKind();
+        oneUnitIsAStep();
         servedByRank();
         promise18();
         Due.end("ServeTest");
@@ -75,6 +76,17 @@ public final class ServeTest {
             Due.is("nothing wanted", m.served(0, 0, 5, 0), 0);
             Due.is("no gain, nor a step's, where nothing is wanted", m.served(0, 0, 5, 1), 0);
         }
+    }
+
+    private static void oneUnitIsAStep() {
+        ReservoirMind m = new ReservoirMind();
+        m.demand(3, 0, 1, 21, 11, 11);
+        Due.is("one lacking", m.served(0, 11, 0, 1), -21);
+        Due.is("none lacking", m.served(0, 11, 1, 1), 31);
+        m.demand(4, 1, 9, 5, 11, 11);
+        Due.is("5, 2, 1 and no more", m.served(1, 11, 10, 1), 8);
+        Due.is("of 9", m.served(1, 11, 10, 0), 9);
+        Due.is("all of a month", m.step(11, 8, 9, 10, 5), 39);
     }
 
     private static void servedByRank() {

@@ -96,6 +96,8 @@ public final class SetUpTest {
         Due.is("partOf(1, 2)", m.partOf(1, 2), 1);
         Due.is("part(1, 2, 9)", m.part(1, 2, 9), 1);
         Due.is("partOf(1, 3)", m.partOf(1, 3), 9);
+        Due.is("part(0, 1, 2)", m.part(0, 1, 2), 1);
+        Due.is("part(0, 1, 3)", m.part(0, 1, 3), 2);
         Due.is("above", m.part(1, 2, 10), BAD);
         Due.is("below", m.part(1, 2, -1), BAD);
         Due.is("below, by which the sum would be 0", m.part(1, 0, -9), BAD);
@@ -117,6 +119,9 @@ public final class SetUpTest {
         Due.is("FLOOD", m.monthOf(3, 4), 9);
         Due.is("TOP is 0 at least", m.monthOf(3, 5), 0);
         Due.is("month(3, 1, 2)", m.month(3, 1, 2), 9);
+        Due.is("month(11, 0, 5)", m.month(11, 0, 5), 0);
+        Due.is("month(11, 0, 0)", m.month(11, 0, 0), 5);
+        Due.is("DRIES of 0", m.monthOf(11, 3), 0);
         Due.is("TOP", m.monthOf(3, 5), 6);
         Due.is("another month's", m.monthOf(4, 5), 8);
         Due.is("month", m.month(12, 0, 0), NONE);

@@ -71,7 +71,9 @@ public final class TapeTest {
         m.put(2, 9);
         m.put(3, 50);
         m.inflow(3, 1, 9);
+        m.inflow(11, 2, 9);
         m.part(1, 2, 9);
+        m.part(2, 2, 9);
         m.month(4, 0, 9);
         m.month(4, 1, 9);
         m.renew(0, 0, 0);
@@ -92,7 +94,9 @@ public final class TapeTest {
         Due.is("INFLOW", m.monthOf(3, 1), 2);
         Due.is("DRIES", m.monthOf(4, 3), 0);
         Due.is("FLOOD", m.monthOf(4, 4), 0);
+        Due.is("INFLOW", m.monthOf(11, 2), 4);
         Due.is("PARTS", m.partOf(1, 3), 3);
+        Due.is("PARTS", m.partOf(2, 3), 3);
         Due.is("a demand", m.demandOf(1, 0), 1);
         Due.is("its place", m.demandOf(1, 6), 0);
         Due.is("the other's place", m.demandOf(0, 6), 1);
@@ -155,6 +159,11 @@ public final class TapeTest {
         Due.is("nothing, n does not matter", m.tape(5, -1, MIN), 1);
         Due.is("nothing, n does not matter", m.tape(5, -1, MAX), 1);
         Due.is("nothing there", m.item(5, 0, 0L), NOTHING);
+        Due.is("nothing to see", m.peek(5, 0), NO);
+        m.tape(4, 0, 2);
+        m.item(4, 0, 9L);
+        m.tape(4, 0, 2);
+        Due.is("all 0", m.peek(4, 0), 0);
     }
 
     private static void promise41And42() {

@@ -50,6 +50,9 @@ public final class TextTest {
         Due.is("CAP", m.told(0), 3);
         Due.is("PARTS by way of all 0", Due.read(m, "p2001"), 1);
         Due.is("PARTS", m.partOf(2, 3), 1);
+        Due.is("PARTS that even out", Due.read(m, "p0121;p1112;p2011"), 3);
+        Due.is("INFLOWS of 0 and on", Due.read(m, "q1.000;q1.123;q0.011"), 3);
+        Due.is("INFLOW", m.monthOf(1, 2), 3);
         Due.is("one behind the other", Due.read(m, "c4;c05;c1"), 3);
         Due.is("the last stands", m.told(0), 1);
     }
