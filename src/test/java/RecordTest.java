@@ -7,6 +7,7 @@ public final class RecordTest {
         promise26();
         replayByTold();
         twoYears();
+        onANewObject();
         replayByBest();
         replayRefusals();
         promise28();
@@ -78,6 +79,26 @@ public final class RecordTest {
         Due.is("wanted twice, had once", m.sure(2, 11, 1, 0, 1), 2);
         Due.records(m, 3, 0, 9, 9);
         all(m, "least behind the first", new int[] {3, 3, 3, 2}, 6, 0, 0, 0, 6, 0);
+    }
+
+    /** Nothing has been found ahead of the first replay. */
+    private static void onANewObject() {
+        ReservoirMind m = new ReservoirMind();
+        m.put(1, 1);
+        Due.records(m, 0, 4);
+        m.demand(0, 0, 2, 50, 0, 11);
+        Due.is("two are let go", m.replay(0, 3, 0, 1, 4), 2);
+        m.renew(0, 1, 5);
+        Due.is("five are let go", m.sure(0, 3, 0, 0, 0), 1);
+        int[] year = new int[24];
+        Due.records(m, 1, year);
+        m.renew(0, 1, 1);
+        Due.is("8 of 24", m.sure(1, 8, 1, 0, 0), 1);
+        Due.is("8 of 24", m.sure(1, 8, 1, 0, 1), 3);
+        m.record(1, -1);
+        m.record(1, 1);
+        m.record(1, 0);
+        Due.is("1 of 2, whatever stood behind them", m.sure(1, 0, 1, 0, 1), 2);
     }
 
     private static void replayByBest() {

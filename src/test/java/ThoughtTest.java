@@ -180,6 +180,7 @@ public final class ThoughtTest {
         ReservoirMind m = oneMonth();
         Due.is("an empty book", m.looked(), -5);
         m.book(0, 5, 2);
+        Due.is("one row", m.looked(), -5);
         m.book(0, 0, 2);
         m.book(0, 8, 2);
         Due.is("all as now", m.looked(), -5);
