@@ -15,20 +15,20 @@ public final class ReservoirMind {
 
     private static final int MONTHS = 12, STATES = 3, DEMANDS = 6, RECORDS = 4, TAPES = 6;
     private static final int CAP_MOST = 12, RELEASE_MOST = 20, FLOW_MOST = 99, UNITS_MOST = 9, DIGIT_MOST = 9;
-    private static final int WORTH_MOST = 99, AFTER_MOST = 12, WAY_MOST = 8, LEFT_TRIED = 20;
+    private static final int AFTER_MOST = 12, WAY_MOST = 8, LEFT_TRIED = 20;
     private static final int RECORD_MONTHS = 24, SEEN_ROWS = 5, PLAN_ROWS = 8, BOOK_ROWS = 8;
     private static final int TEXT_SIGNS = 100, SIGN_MOST = 127, CLAUSES = 12, CLAUSE_WIDTH = 7;
     private static final int TAPE_ITEMS = 60, NO_ROW = -1, LONGS = 3, BOOLEANS = 4;
 
     private static final int PLAIN = 0, FIRM = 1, SUMMER = 2, STEPPED = 3, TRICKLE = 4;
     /** The KIND above each KIND; -1 above PLAIN. */
-    private static final int[] KIND_ABOVE = {-1, PLAIN, PLAIN, FIRM, PLAIN};
+    private static final int[] KIND_ABOVE = {-1, 0, 0, 1, 0};
     /** CAP, the HORIZON, HARM, LEFT. */
     private static final int[] SETTING_LEAST = {1, 1, 0, 0};
-    private static final int[] SETTING_MOST = {CAP_MOST, MONTHS, 9, 99};
+    private static final int[] SETTING_MOST = {12, 12, 9, 99};
     /** RANK, WANTS, WORTH. */
     private static final int[] RENEW_LEAST = {0, 1, 0};
-    private static final int[] RENEW_MOST = {9, 9, WORTH_MOST};
+    private static final int[] RENEW_MOST = {9, 9, 99};
 
     /** One store more than CAP may ever be: the WORTH of ROOM asks for a CAP of 13. */
     private static final int STORES = CAP_MOST + 2;
@@ -1050,11 +1050,19 @@ public final class ReservoirMind {
             if (size >= limit) {
                 return FULL;
             }
-            for (int column = 0; column < width; column++) {
-                cells[size * width + column] = column == 0 ? a : column == 1 ? b : column == 2 ? c : d;
-            }
             size++;
+            setInLast(0, a);
+            setInLast(1, b);
+            setInLast(2, c);
+            setInLast(3, d);
             return size;
+        }
+
+        /** A column that these rows don't have is passed over, so that one way of adding serves all widths. */
+        private void setInLast(int column, int v) {
+            if (column < width) {
+                cells[(size - 1) * width + column] = v;
+            }
         }
 
         /** NONE where there is no such row, so that a reader may look beyond the end. */
