@@ -17,7 +17,7 @@ public final class BestTest {
     }
 
     private static void oneMonth() {
-        ReservoirMind m = new ReservoirMind();
+        Mind m = new Mind();
         m.put(1, 1);
         Due.is("at the horizon", m.best(1, 5, 2), Due.bits(15f));
         Due.is("all is kept", m.best(0, 5, 1), Due.bits(21f));
@@ -45,7 +45,7 @@ public final class BestTest {
 
     /** MEAN is a sum from 0 on, divided once, in floats. */
     private static void twoMonths() {
-        ReservoirMind m = new ReservoirMind();
+        Mind m = new Mind();
         m.put(1, 2);
         m.put(3, 1);
         Due.is("month 1", m.best(1, 1, 2), Due.bits(5f));
@@ -63,7 +63,7 @@ public final class BestTest {
     }
 
     private static void refusals() {
-        ReservoirMind m = new ReservoirMind();
+        Mind m = new Mind();
         Due.is("at the horizon none is released", m.release(6, 0, 0), NONE);
         Due.is("at the horizon none would be", m.would(6, 0, 0, 0), NO);
         int[][] no = {{7, 0, 0}, {-1, 0, 0}, {0, 9, 0}, {0, -1, 0}, {0, 0, 3}, {0, 0, -1},
@@ -82,7 +82,7 @@ public final class BestTest {
     }
 
     private static void promise22() {
-        ReservoirMind m = new ReservoirMind();
+        Mind m = new Mind();
         m.part(0, 1, 0);
         m.part(0, 2, 4);
         Due.is("after 0", m.after(0, 0, 0), Due.bits(1f));
@@ -103,7 +103,7 @@ public final class BestTest {
     }
 
     private static void promise23And24() {
-        ReservoirMind m = new ReservoirMind();
+        Mind m = new Mind();
         for (int k = 0; k < 8; k++) {
             Due.is("of like ways that with the least states", m.way(2, 8, k), 0);
         }
@@ -131,7 +131,7 @@ public final class BestTest {
     }
 
     private static void worthOfDemandAndRoom() {
-        ReservoirMind m = new ReservoirMind();
+        Mind m = new Mind();
         m.put(1, 1);
         m.demand(0, 0, 2, 10, 0, 11);
         m.demand(0, 1, 1, 50, 1, 1);
@@ -157,7 +157,7 @@ public final class BestTest {
 
     /** All of 21 units but one can be let go. */
     private static void greatReleases() {
-        ReservoirMind m = new ReservoirMind();
+        Mind m = new Mind();
         m.put(0, 12);
         m.put(1, 1);
         m.put(3, 0);
@@ -176,7 +176,7 @@ public final class BestTest {
 
     /** What was found once may not be answered any more when the reservoir has changed. */
     private static void everyChangeIsSeen() {
-        ReservoirMind m = new ReservoirMind();
+        Mind m = new Mind();
         m.put(1, 1);
         m.image();
         Due.is("at first", m.best(0, 8, 1), Due.bits(24f));
@@ -213,7 +213,7 @@ public final class BestTest {
     }
 
     private static void worthOfFlood() {
-        ReservoirMind m = new ReservoirMind();
+        Mind m = new Mind();
         m.put(1, 1);
         Due.is("one unit of 3 less", m.worth(2, 0, 8, 2), Due.bits(3f));
         Due.is("a month beyond the horizon", m.worth(2, 11, 8, 2), Due.bits(0f));

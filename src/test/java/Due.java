@@ -1,5 +1,8 @@
 /** What all tests share: they tell every answer that is not the one due, and how many were looked at. */
 final class Due {
+    /** A fault can be seen in very many answers; the first ones tell enough of it. */
+    private static final int TOLD_MOST = 200;
+
     private static int wrong = 0;
     private static int looked = 0;
 
@@ -10,7 +13,9 @@ final class Due {
         looked++;
         if (got != want) {
             wrong++;
-            System.out.println(call + " answered " + got + ", due is " + want);
+            if (wrong <= TOLD_MOST) {
+                System.out.println(call + " answered " + got + ", due is " + want);
+            }
         }
     }
 
@@ -30,18 +35,18 @@ final class Due {
         return Float.floatToRawIntBits(f);
     }
 
-    static void feed(ReservoirMind mind, String text) {
+    static void feed(Mind mind, String text) {
         for (int k = 0; k < text.length(); k++) {
             is("feed of " + text + " at " + k, mind.feed(text.charAt(k)), mind.count(4));
         }
     }
 
-    static int read(ReservoirMind mind, String text) {
+    static int read(Mind mind, String text) {
         feed(mind, text);
         return mind.read();
     }
 
-    static void records(ReservoirMind mind, int record, int... units) {
+    static void records(Mind mind, int record, int... units) {
         mind.record(record, -1);
         for (int k = 0; k < units.length; k++) {
             is("record(" + record + ", " + units[k] + ")", mind.record(record, units[k]), k + 1);

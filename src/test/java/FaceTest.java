@@ -129,13 +129,15 @@ public final class FaceTest {
     private static void callsMakeNoObjects() {
         com.sun.management.ThreadMXBean bean =
             (com.sun.management.ThreadMXBean) ManagementFactory.getThreadMXBean();
-        ReservoirMind mind = new ReservoirMind();
-        allCalls(mind);
+        ReservoirMind[] minds = new ReservoirMind[10];
+        for (int k = 0; k < 10; k++) {
+            minds[k] = new ReservoirMind();
+        }
         // of several tries the least, since the machine may make objects of its own in between
         long least = Long.MAX_VALUE;
         for (int k = 0; k < 10; k++) {
             long before = bean.getCurrentThreadAllocatedBytes();
-            allCalls(mind);
+            allCalls(minds[k]);
             least = Math.min(least, bean.getCurrentThreadAllocatedBytes() - before);
         }
         Due.is("bytes that calls have made", least, 0);

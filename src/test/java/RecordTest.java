@@ -16,7 +16,7 @@ public final class RecordTest {
     }
 
     private static void promise26() {
-        ReservoirMind m = new ReservoirMind();
+        Mind m = new Mind();
         for (int record = 0; record < 4; record++) {
             for (int k = 1; k <= 24; k++) {
                 Due.is("record", m.record(record, k % 10), k);
@@ -34,14 +34,14 @@ public final class RecordTest {
         Due.is("no such is not emptied", m.record(4, -1), NONE);
     }
 
-    private static void all(ReservoirMind m, String call, int[] a, long... due) {
+    private static void all(Mind m, String call, int[] a, long... due) {
         for (int what = 0; what < 6; what++) {
             Due.is(call + " " + what, m.replay(a[0], a[1], a[2], a[3], what), due[what]);
         }
     }
 
     private static void replayByTold() {
-        ReservoirMind m = new ReservoirMind();
+        Mind m = new Mind();
         m.demand(0, 0, 1, 10, 0, 11);
         m.month(1, 0, 5);
         m.month(2, 1, 6);
@@ -65,7 +65,7 @@ public final class RecordTest {
     }
 
     private static void twoYears() {
-        ReservoirMind m = new ReservoirMind();
+        Mind m = new Mind();
         m.put(0, 12);
         int[] year = new int[24];
         year[23] = 7;
@@ -83,7 +83,7 @@ public final class RecordTest {
 
     /** Nothing has been found ahead of the first replay. */
     private static void onANewObject() {
-        ReservoirMind m = new ReservoirMind();
+        Mind m = new Mind();
         m.put(1, 1);
         Due.records(m, 0, 4);
         m.demand(0, 0, 2, 50, 0, 11);
@@ -102,7 +102,7 @@ public final class RecordTest {
     }
 
     private static void replayByBest() {
-        ReservoirMind m = new ReservoirMind();
+        Mind m = new Mind();
         m.put(1, 2);
         m.put(3, 0);
         m.demand(0, 0, 3, 10, 0, 11);
@@ -125,7 +125,7 @@ public final class RecordTest {
     }
 
     private static void replayRefusals() {
-        ReservoirMind m = new ReservoirMind();
+        Mind m = new Mind();
         Due.records(m, 1, 4, 4);
         int[][] no = {{4, 0, 0, 0, 0}, {-1, 0, 0, 0, 0}, {1, 9, 0, 0, 0}, {1, -1, 0, 0, 0}, {1, 0, 21, 0, 0},
             {1, 0, -1, 0, 0}, {1, 0, 0, 3, 0}, {1, 0, 0, -1, 0}, {0, 0, 0, 1, 0}, {1, 0, 0, 0, 6}, {1, 0, 0, 0, -1}};
@@ -136,7 +136,7 @@ public final class RecordTest {
     }
 
     private static void promise28() {
-        ReservoirMind m = new ReservoirMind();
+        Mind m = new Mind();
         m.demand(0, 0, 2, 10, 0, 5);
         m.demand(0, 1, 2, 10, 0, 11);
         m.demand(0, 1, 2, 10, 9, 9);
@@ -162,7 +162,7 @@ public final class RecordTest {
     }
 
     private static void promise29() {
-        ReservoirMind m = new ReservoirMind();
+        Mind m = new Mind();
         m.part(0, 0, 9);
         Due.is("no months", m.learn(0), ReservoirMind.STATE);
         m.record(0, 1);

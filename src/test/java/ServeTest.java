@@ -13,8 +13,8 @@ public final class ServeTest {
         Due.end("ServeTest");
     }
 
-    private static ReservoirMind withKinds() {
-        ReservoirMind m = new ReservoirMind();
+    private static Mind withKinds() {
+        Mind m = new Mind();
         for (int kind = 0; kind < 5; kind++) {
             m.demand(kind, 0, 3, 21, 0, 11);
         }
@@ -22,7 +22,7 @@ public final class ServeTest {
     }
 
     private static void promise15() {
-        ReservoirMind m = withKinds();
+        Mind m = withKinds();
         int[][] above = {{0}, {0, 1}, {0, 2}, {0, 1, 3}, {0, 4}};
         for (int kind = 0; kind < 5; kind++) {
             for (int k = 0; k < 5; k++) {
@@ -40,7 +40,7 @@ public final class ServeTest {
     }
 
     private static void promise16() {
-        ReservoirMind m = new ReservoirMind();
+        Mind m = new Mind();
         m.demand(0, 0, 3, 1, 2, 6);
         m.demand(1, 0, 4, 1, 10, 1);
         m.demand(2, 0, 9, 1, 4, 9);
@@ -65,7 +65,7 @@ public final class ServeTest {
         // got 0, 1, 2, 3 of 3 units with a WORTH of 21
         long[][] due = {{0, 21, 42, 63}, {-63, -21, 21, 63}, {0, 21, 42, 63}, {-63, -21, 21, 73}, {0, 21, 31, 36}};
         for (int kind = 0; kind < 5; kind++) {
-            ReservoirMind m = new ReservoirMind();
+            Mind m = new Mind();
             m.demand(kind, 0, 3, 21, 1, 1);
             for (int x = 0; x < 4; x++) {
                 Due.is("got by kind " + kind, m.served(0, 1, x, 0), x);
@@ -79,7 +79,7 @@ public final class ServeTest {
     }
 
     private static void oneUnitIsAStep() {
-        ReservoirMind m = new ReservoirMind();
+        Mind m = new Mind();
         m.demand(3, 0, 1, 21, 11, 11);
         Due.is("one lacking", m.served(0, 11, 0, 1), -21);
         Due.is("none lacking", m.served(0, 11, 1, 1), 31);
@@ -90,7 +90,7 @@ public final class ServeTest {
     }
 
     private static void servedByRank() {
-        ReservoirMind m = new ReservoirMind();
+        Mind m = new Mind();
         m.demand(0, 5, 2, 10, 0, 11);
         m.demand(0, 1, 3, 10, 0, 11);
         m.demand(0, 5, 4, 10, 0, 11);
@@ -112,7 +112,7 @@ public final class ServeTest {
     }
 
     private static void promise18() {
-        ReservoirMind m = new ReservoirMind();
+        Mind m = new Mind();
         m.demand(1, 0, 4, 5, 0, 11);
         m.month(2, 0, 5);
         m.month(2, 1, 6);

@@ -15,7 +15,7 @@ public final class SetUpTest {
     }
 
     private static void promise1() {
-        ReservoirMind m = new ReservoirMind();
+        Mind m = new Mind();
         Due.is("told(0)", m.told(0), 8);
         Due.is("told(1)", m.told(1), 6);
         Due.is("told(2)", m.told(2), 2);
@@ -43,7 +43,7 @@ public final class SetUpTest {
     }
 
     private static void promise2And11() {
-        ReservoirMind m = new ReservoirMind();
+        Mind m = new Mind();
         int[] first = {8, 6, 2, 3};
         int[] least = {1, 1, 0, 0};
         int[] most = {12, 12, 9, 99};
@@ -66,7 +66,7 @@ public final class SetUpTest {
     }
 
     private static void promise3And12() {
-        ReservoirMind m = new ReservoirMind();
+        Mind m = new Mind();
         Due.is("inflow(0, 0, 9)", m.inflow(0, 0, 9), 1);
         Due.is("inflow(0, 0, 0)", m.inflow(0, 0, 0), 9);
         Due.is("inflow(11, 2, 7)", m.inflow(11, 2, 7), 4);
@@ -89,7 +89,7 @@ public final class SetUpTest {
     }
 
     private static void promise4And13() {
-        ReservoirMind m = new ReservoirMind();
+        Mind m = new Mind();
         Due.is("part(1, 1, 0)", m.part(1, 1, 0), 1);
         Due.is("part(1, 0, 0)", m.part(1, 0, 0), 1);
         Due.is("all three would be 0", m.part(1, 2, 0), BAD);
@@ -112,7 +112,7 @@ public final class SetUpTest {
     }
 
     private static void promise5And12() {
-        ReservoirMind m = new ReservoirMind();
+        Mind m = new Mind();
         Due.is("month(3, 0, 9)", m.month(3, 0, 9), 0);
         Due.is("month(3, 1, 9)", m.month(3, 1, 9), 0);
         Due.is("DRIES", m.monthOf(3, 3), 9);
@@ -133,7 +133,7 @@ public final class SetUpTest {
     }
 
     private static void promise6And14() {
-        ReservoirMind m = new ReservoirMind();
+        Mind m = new Mind();
         Due.is("demand", m.demand(3, 9, 9, 99, 11, 0), 0);
         int[] due = {3, 9, 9, 99, 11, 0, 0};
         for (int what = 0; what < 7; what++) {
@@ -162,7 +162,7 @@ public final class SetUpTest {
     }
 
     private static void promise7() {
-        ReservoirMind m = new ReservoirMind();
+        Mind m = new Mind();
         m.demand(0, 3, 2, 10, 0, 11);
         m.demand(0, 4, 2, 10, 0, 11);
         Due.is("renew RANK", m.renew(1, 0, 0), 4);
@@ -186,7 +186,7 @@ public final class SetUpTest {
     }
 
     private static void promise8() {
-        ReservoirMind m = new ReservoirMind();
+        Mind m = new Mind();
         for (int k = 0; k < 6; k++) {
             m.demand(k % 5, 9 - k, k + 1, 10 * k, k, k + 1);
         }

@@ -16,7 +16,7 @@ public final class TapeTest {
     }
 
     private static void promise36() {
-        ReservoirMind m = new ReservoirMind();
+        Mind m = new Mind();
         Due.records(m, 0, 3, 4, 0);
         // by a told release of 2 from a store of 1: 1, 2, 4, 2
         m.tape(1, 3, 6);
@@ -56,7 +56,7 @@ public final class TapeTest {
     }
 
     private static void promise37And38() {
-        ReservoirMind m = new ReservoirMind();
+        Mind m = new Mind();
         Due.is("no image", m.undo(), STATE);
         m.demand(0, 3, 2, 10, 0, 11);
         m.demand(1, 2, 2, 10, 0, 11);
@@ -117,7 +117,7 @@ public final class TapeTest {
     }
 
     private static void promise39() {
-        ReservoirMind m = new ReservoirMind();
+        Mind m = new Mind();
         m.demand(0, 0, 1, 1, 0, 0);
         for (int k = 0; k < 5; k++) {
             m.record(k % 4, 1);
@@ -139,7 +139,7 @@ public final class TapeTest {
     }
 
     private static void promise40() {
-        ReservoirMind m = new ReservoirMind();
+        Mind m = new Mind();
         Due.is("tape", m.tape(6, 0, 1), NONE);
         Due.is("tape", m.tape(-1, 9, 99), NONE);
         Due.is("sort", m.tape(0, 5, 1), BAD);
@@ -167,7 +167,7 @@ public final class TapeTest {
     }
 
     private static void promise41And42() {
-        ReservoirMind m = new ReservoirMind();
+        Mind m = new Mind();
         long v = 0x1234_5678_9ABC_DEF0L;
         long[] due = {(byte) v, (short) v, (int) v, v, 1};
         long[] high = {0, 0, 0, 1L << 40, 1};
@@ -198,8 +198,8 @@ public final class TapeTest {
         Due.is("nothing there", m.peek(5, 0), NO);
     }
 
-    private static ReservoirMind counted() {
-        ReservoirMind m = new ReservoirMind();
+    private static Mind counted() {
+        Mind m = new Mind();
         m.tape(0, 2, 6);
         m.tape(1, 2, 4);
         m.tape(2, 3, 4);
@@ -209,7 +209,7 @@ public final class TapeTest {
         return m;
     }
 
-    private static long[] row(ReservoirMind m, int tape, int n) {
+    private static long[] row(Mind m, int tape, int n) {
         long[] items = new long[n];
         for (int k = 0; k < n; k++) {
             items[k] = m.peek(tape, k);
@@ -218,7 +218,7 @@ public final class TapeTest {
     }
 
     private static void promise43() {
-        ReservoirMind m = counted();
+        Mind m = counted();
         Due.is("to another", m.shift(0, 2, 1, 1, 3), 3);
         Due.all("to another", row(m, 1, 4), 0, 3, 4, 5);
         Due.is("up in the same", m.shift(0, 0, 0, 1, 5), 5);

@@ -10,7 +10,7 @@ public final class TextTest {
     }
 
     private static void promise9() {
-        ReservoirMind m = new ReservoirMind();
+        Mind m = new Mind();
         Due.is("feed(-1)", m.feed(-1), ReservoirMind.BAD);
         Due.is("feed(128)", m.feed(128), ReservoirMind.BAD);
         Due.is("feed(MIN)", m.feed(Integer.MIN_VALUE), ReservoirMind.BAD);
@@ -28,7 +28,7 @@ public final class TextTest {
     }
 
     private static void clausesAreDone() {
-        ReservoirMind m = new ReservoirMind();
+        Mind m = new Mind();
         Due.is("read", Due.read(m, "d41399.11.0;q11.987;p2090;e0.9;f05.7;c12"), 6);
         Due.is("empty then", m.count(4), 0);
         int[] demand = {4, 1, 3, 99, 11, 0};
@@ -58,7 +58,7 @@ public final class TextTest {
     }
 
     private static void refusedOnesAreNot() {
-        ReservoirMind m = new ReservoirMind();
+        Mind m = new Mind();
         Due.is("c", Due.read(m, "c0;c13;c99;c00"), 0);
         Due.is("CAP", m.told(0), 8);
         Due.is("p", Due.read(m, "p0000;p3111;p9123"), 0);
@@ -73,7 +73,7 @@ public final class TextTest {
     }
 
     private static void faults() {
-        ReservoirMind m = new ReservoirMind();
+        Mind m = new Mind();
         Due.is("nothing", m.read(), -10);
         String[] texts = {"x", "d", "D0111.0.0", "d0a", "d01111111", "d0111.", "d0111..", "d0111.123", "d0111.1.",
             "d0111.1.123", "q", "q.", "q1", "q1.", "q1.1", "q1.11", "q1.11;", "q1.1111", "q123", "p", "p000", "p00000",
@@ -82,9 +82,11 @@ public final class TextTest {
             10, 1, 1, 2, 3, 4, 5, 5, 6, 3, 1, 4, 5,
             2, 3, 4, 4, 1, 1, 3, 3, 3, 0, 2, 0, 3, 4, 1};
         for (int k = 0; k < texts.length; k++) {
+            m = new Mind();
             Due.is("read of " + texts[k], Due.read(m, texts[k]), -10 - faults[k]);
             Due.is("the text is empty then", m.count(4), 0);
         }
+        m = new Mind();
         Due.is("nothing is done of a text with a fault", Due.read(m, "c3;q1.111;c"), -20 - 1);
         Due.is("CAP", m.told(0), 8);
         Due.is("INFLOW", m.monthOf(1, 2), 4);
@@ -93,11 +95,11 @@ public final class TextTest {
             full.append("d01111.11.11;");
         }
         full.setLength(100);
-        Due.is("the end of a full text", Due.read(m, full.toString()), -110);
+        Due.is("the end of a full text", Due.read(new Mind(), full.toString()), -110);
     }
 
     private static void countOfClauses() {
-        ReservoirMind m = new ReservoirMind();
+        Mind m = new Mind();
         Due.is("twelve", Due.read(m, "c1;c2;c3;c4;c5;c6;c7;c8;c9;c10;c11;c12"), 12);
         Due.is("CAP", m.told(0), 12);
         Due.is("the ; behind the twelfth", Due.read(m, "c1;c1;c1;c1;c1;c1;c1;c1;c1;c1;c1;c1;"), -10 - 35);

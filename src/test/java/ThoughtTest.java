@@ -15,7 +15,7 @@ public final class ThoughtTest {
     }
 
     private static void promise30() {
-        ReservoirMind m = new ReservoirMind();
+        Mind m = new Mind();
         for (int k = 1; k <= 5; k++) {
             Due.is("see", m.see(5, 8, 2, 20), k);
         }
@@ -35,15 +35,15 @@ public final class ThoughtTest {
     }
 
     /** One month, a demand of two units worth 10: they are released while LEFT is below 10. */
-    private static ReservoirMind oneMonth() {
-        ReservoirMind m = new ReservoirMind();
+    private static Mind oneMonth() {
+        Mind m = new Mind();
         m.put(1, 1);
         m.demand(0, 0, 2, 10, 0, 11);
         return m;
     }
 
     private static void promise31() {
-        ReservoirMind m = oneMonth();
+        Mind m = oneMonth();
         Due.is("all fit what is not seen", m.fits(0), 21);
         Due.is("the least", m.fits(1), 0);
         m.see(0, 3, 0, 2);
@@ -78,7 +78,7 @@ public final class ThoughtTest {
     }
 
     private static void promise32() {
-        ReservoirMind m = oneMonth();
+        Mind m = oneMonth();
         Due.is("what", m.plan(4, 0), NONE);
         Due.is("what", m.plan(-2, 0), NONE);
         Due.is("demand", m.plan(3, 1), NONE);
@@ -102,7 +102,7 @@ public final class ThoughtTest {
     }
 
     private static void promise33() {
-        ReservoirMind m = oneMonth();
+        Mind m = oneMonth();
         Due.is("an empty plan", m.ends(8, 2), m.best(0, 8, 2));
         Due.is("2 of 10, 8 of 3, 2 spilled or let go", m.ends(8, 2), Due.bits(44f));
         m.plan(0, 2);
@@ -129,7 +129,7 @@ public final class ThoughtTest {
         // 12 and 9 are 21: 20 are let go at most, 3 are kept
         Due.is("by a harm of 9", m.ends(12, 2), Due.bits(29f));
         numbersAreKept();
-        ReservoirMind n = new ReservoirMind();
+        Mind n = new Mind();
         Due.is("store", n.ends(9, 0), NO);
         Due.is("store", n.ends(-1, 0), NO);
         Due.is("state", n.ends(0, 3), NO);
@@ -139,7 +139,7 @@ public final class ThoughtTest {
     }
 
     private static void numbersAreKept() {
-        ReservoirMind m = new ReservoirMind();
+        Mind m = new Mind();
         m.put(1, 1);
         m.put(3, 0);
         m.demand(0, 0, 1, 1, 0, 11);
@@ -159,7 +159,7 @@ public final class ThoughtTest {
     }
 
     private static void promise34() {
-        ReservoirMind m = new ReservoirMind();
+        Mind m = new Mind();
         Due.is("month", m.book(12, 0, 0), NONE);
         Due.is("month", m.book(-2, 0, 0), NONE);
         Due.is("NONE ahead of BAD", m.book(12, 13, 0), NONE);
@@ -177,7 +177,7 @@ public final class ThoughtTest {
     }
 
     private static void promise35() {
-        ReservoirMind m = oneMonth();
+        Mind m = oneMonth();
         Due.is("an empty book", m.looked(), -5);
         m.book(0, 5, 2);
         Due.is("one row", m.looked(), -5);
