@@ -15,7 +15,7 @@ public final class ReservoirMind {
 
     private static final int MONTHS = 12, STATES = 3, DEMANDS = 6, RECORDS = 4, TAPES = 6;
     private static final int CAP_MOST = 12, RELEASE_MOST = 20, FLOW_MOST = 99, UNITS_MOST = 9, DIGIT_MOST = 9;
-    private static final int AFTER_MOST = 12, WAY_MOST = 8, LEFT_TRIED = 20;
+    private static final int AFTER_MOST = 12, WAY_MOST = 8, TRAILS = 6561, LEFT_TRIED = 20;
     private static final int RECORD_MONTHS = 24, SEEN_ROWS = 5, PLAN_ROWS = 8, BOOK_ROWS = 8;
     private static final int TEXT_SIGNS = 100, SIGN_MOST = 127, CLAUSES = 12, CLAUSE_WIDTH = 7;
     private static final int TAPE_ITEMS = 60, NO_ROW = -1, LONGS = 3, BOOLEANS = 4;
@@ -1187,7 +1187,9 @@ public final class ReservoirMind {
         private final float[] odds = new float[STATES * STATES];
         private float[] being = new float[STATES];
         private float[] coming = new float[STATES];
-        private final int[] trail = new int[WAY_MOST];
+        /** A STATE and those of the MONTHS behind it, and the CHANCE up to each of them. */
+        private final int[] trail = new int[WAY_MOST + 1];
+        private final float[] chances = new float[WAY_MOST + 1];
         final int[] likeliest = new int[WAY_MOST];
         float greatest = 0f;
 
@@ -1219,25 +1221,50 @@ public final class ReservoirMind {
             return being[to];
         }
 
+        /** Trails come by turn, the least STATES first, so of several alike the one that stands is the least. */
         void findLikeliest(int from, int n) {
+            int last = Math.min(n, WAY_MOST);
+            for (int place = 1; place <= last; place++) {
+                trail[place] = 0;
+            }
+            trail[0] = from;
+            chances[0] = 1f;
             greatest = -1f;
-            follow(from, 0, Math.min(n, WAY_MOST), 1f);
+            int fresh = 1;
+            for (int k = 0; k < TRAILS && fresh > 0; k++) {
+                int hopeless = weighFrom(fresh, last);
+                if (hopeless > last) {
+                    greatest = chances[last];
+                    System.arraycopy(trail, 1, likeliest, 0, last);
+                }
+                fresh = turnOn(Math.min(hopeless, last));
+            }
         }
 
-        /** Odds are never above 1, so a trail that is no likelier than one found already can't become so. */
-        private void follow(int state, int depth, int n, float chanceSoFar) {
-            if (chanceSoFar <= greatest) {
-                return;
+        /**
+         * The first place up to which a trail is no likelier than one found already: odds are never above 1, so
+         * it can't become so. One behind the last if there is none.
+         */
+        private int weighFrom(int fresh, int last) {
+            for (int place = fresh; place <= last; place++) {
+                chances[place] = chances[place - 1] * odds[trail[place - 1] * STATES + trail[place]];
+                if (chances[place] <= greatest) {
+                    return place;
+                }
             }
-            if (depth >= n) {
-                greatest = chanceSoFar;
-                System.arraycopy(trail, 0, likeliest, 0, n);
-                return;
+            return last + 1;
+        }
+
+        /** The next trail, as one counts: the place from which on it is another one; 0 if that was the last. */
+        private int turnOn(int from) {
+            for (int place = from; place > 0; place--) {
+                if (trail[place] < STATES - 1) {
+                    trail[place]++;
+                    return place;
+                }
+                trail[place] = 0;
             }
-            for (int next = 0; next < STATES; next++) {
-                trail[depth] = next;
-                follow(next, depth + 1, n, chanceSoFar * odds[state * STATES + next]);
-            }
+            return 0;
         }
     }
 
