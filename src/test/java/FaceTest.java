@@ -2,7 +2,6 @@ import java.io.IOException;
 import java.lang.management.ManagementFactory;
 import java.lang.reflect.Constructor;
 import java.lang.reflect.Field;
-import java.lang.reflect.Member;
 import java.lang.reflect.Method;
 import java.lang.reflect.Modifier;
 import java.nio.file.Files;
@@ -10,10 +9,8 @@ import java.nio.file.Path;
 import java.util.Arrays;
 import java.util.Set;
 import java.util.TreeSet;
-import java.util.regex.Matcher;
-import java.util.regex.Pattern;
 
-/** The public face, and what of LANGUAGE.md can be read off the source or the compiled class. */
+/** The public face as the document tells it, rule 1 of LANGUAGE.md, and that no call makes an object. */
 public final class FaceTest {
     private static final String[] FACE = {"put(int,int)int", "inflow(int,int,int)int", "part(int,int,int)int",
         "month(int,int,int)int", "demand(int,int,int,int,int,int)int", "renew(int,int,int)int", "drop(int)int",
@@ -26,11 +23,20 @@ public final class FaceTest {
         "judge(int,int,int,int,int)int", "image()int", "undo()int", "count(int)int", "tape(int,int,int)int",
         "item(int,int,long)int", "peek(int,int)long", "shift(int,int,int,int,int)int"};
 
+    /** What the interface says ahead of which calls. */
+    private static final String[][] PARTS = {
+        {"the reservoir, demands", "put inflow part month demand renew drop feed read"},
+        {"what there is", "told monthOf partOf demandOf taken wanted served step"},
+        {"the best", "best release would after way chance worth"},
+        {"records", "record replay sure learn"},
+        {"seen, plans, books", "see fits plan ends book looked"},
+        {"judging, the image, tapes", "judge image undo count tape item peek shift"}};
+
     public static void main(String[] args) throws IOException {
         theFaceIsTheDocuments();
         constants();
         namesOfPrivateMethods();
-        theSource();
+        whatTheInterfaceSays();
         callsMakeNoObjects();
         Due.end("FaceTest");
     }
@@ -39,6 +45,7 @@ public final class FaceTest {
         Class<?> c = ReservoirMind.class;
         Due.holds("public and final", Modifier.isPublic(c.getModifiers()) && Modifier.isFinal(c.getModifiers()));
         Due.holds("without a package", c.getPackageName().isEmpty());
+        Due.holds("it is under no other class", c.getSuperclass() == Object.class && c.getInterfaces().length == 0);
         Set<String> face = new TreeSet<>();
         for (Method m : c.getDeclaredMethods()) {
             if (!Modifier.isPrivate(m.getModifiers())) {
@@ -51,14 +58,13 @@ public final class FaceTest {
         }
         Set<String> due = new TreeSet<>(Arrays.asList(FACE));
         Due.holds("methods are " + due + ", not " + face, face.equals(due));
-        for (Constructor<?> made : c.getDeclaredConstructors()) {
-            Due.holds("one public constructor", Modifier.isPublic(made.getModifiers()) && made.getParameterCount() == 0);
-        }
+        Constructor<?>[] made = c.getDeclaredConstructors();
+        Due.holds("one public constructor", made.length == 1 && Modifier.isPublic(made[0].getModifiers())
+            && made[0].getParameterCount() == 0);
         for (Class<?> inside : c.getDeclaredClasses()) {
             int bits = inside.getModifiers();
             Due.holds(inside + " is static, not public", Modifier.isStatic(bits) && !Modifier.isPublic(bits));
         }
-        Due.holds("some twelve classes at most", c.getDeclaredClasses().length + 1 <= 12);
     }
 
     private static void constants() {
@@ -70,12 +76,13 @@ public final class FaceTest {
         Set<String> seen = new TreeSet<>();
         for (Field f : ReservoirMind.class.getDeclaredFields()) {
             if (!Modifier.isPrivate(f.getModifiers())) {
-                seen.add(f.getName());
+                seen.add(f.getType() + " " + f.getName());
+                Due.holds(f + " is a public constant", Modifier.isPublic(f.getModifiers())
+                    && Modifier.isStatic(f.getModifiers()) && Modifier.isFinal(f.getModifiers()));
             }
-            Due.holds(f + ": what is static is final",
-                !Modifier.isStatic(f.getModifiers()) || Modifier.isFinal(f.getModifiers()));
         }
-        Due.holds("no other field is seen from outside", seen.equals(Set.of("NONE", "BAD", "STATE", "FULL", "NO")));
+        Due.holds("no other field is seen from outside",
+            seen.equals(Set.of("int NONE", "int BAD", "int STATE", "int FULL", "long NO")));
     }
 
     private static void namesOfPrivateMethods() {
@@ -84,45 +91,37 @@ public final class FaceTest {
             names.add(call.substring(0, call.indexOf('(')));
         }
         for (Method m : ReservoirMind.class.getDeclaredMethods()) {
-            look(m, names);
+            Due.holds(m + " is private and bears a name of the face",
+                !Modifier.isPrivate(m.getModifiers()) || !names.contains(m.getName()));
         }
         for (Class<?> inside : ReservoirMind.class.getDeclaredClasses()) {
-            int fields = 0;
             for (Method m : inside.getDeclaredMethods()) {
                 Due.holds(inside + "." + m.getName() + " bears no name of the face", !names.contains(m.getName()));
-                look(m, names);
             }
-            for (Field f : inside.getDeclaredFields()) {
-                fields += Modifier.isStatic(f.getModifiers()) ? 0 : 1;
-            }
-            Due.holds(inside + " has some twenty fields at most", fields <= 20);
         }
     }
 
-    private static void look(Method m, Set<String> names) {
-        boolean isPrivate = Modifier.isPrivate(((Member) m).getModifiers());
-        Due.holds(m + " is private and bears a name of the face", !isPrivate || !names.contains(m.getName()));
-        Due.holds(m + " takes at most seven", m.getParameterCount() <= 7);
-    }
-
-    private static void theSource() throws IOException {
+    /** The calls stand in the interface's order, each behind the line that the interface says ahead of it. */
+    private static void whatTheInterfaceSays() throws IOException {
         String source = Files.readString(Path.of("src/main/java/ReservoirMind.java"));
-        String code = source.replaceAll("(?s)/\\*.*?\\*/", "").replaceAll("//[^\n]*", "");
-        String[] ruledOut = {"\\bimport\\b", "\\bpackage\\b", "\\btry\\b", "\\bcatch\\b", "\\bfinally\\b", "\\bthrow\\b",
-            "\\bsynchronized\\b", "\\bassert\\b", "->", "::", "\\bFloat\\b", "\\bDouble\\b", "Exact\\b", "\\bvar\\b",
-            "\\bnull\\b", "\\bdouble\\b", "\\bSystem\\.(?!arraycopy)", "\\bMath\\.(?!min|max|abs)\\w+"};
-        for (String word : ruledOut) {
-            Due.holds(word + " is not in the code", !Pattern.compile(word).matcher(code).find());
+        int at = 0;
+        int calls = 0;
+        for (String[] part : PARTS) {
+            int line = source.indexOf("    // ---- " + part[0] + "\n", at);
+            Due.holds("ahead of its calls the interface says: ---- " + part[0], line >= at);
+            int next = source.indexOf("    // ---- ", line + 1);
+            at = line;
+            for (String call : part[1].split(" ")) {
+                Due.holds(call + " is one of the face", FACE[calls].startsWith(call + "("));
+                int found = source.indexOf(" " + call + "(", at);
+                Due.holds(call + " stands behind ---- " + part[0], found > at && found < next);
+                Due.holds(call + " stands in the interface's order",
+                    source.substring(at, Math.max(at, found)).split("\n {4}public ", -1).length == 2);
+                at = found;
+                calls++;
+            }
         }
-        Due.holds("signs 1 to 127 alone", source.chars().allMatch(c -> c > 0 && c < 128));
-        Matcher method = Pattern.compile("(?m)^( {4}| {8})(?! )[^=;\n]*\\)\\s*\\{\n((?s).*?)\n\\1\\}").matcher(code);
-        int methods = 0;
-        while (method.find()) {
-            methods++;
-            long lines = method.group(2).lines().count();
-            Due.holds("a method of " + lines + " lines: " + method.group().lines().findFirst().get(), lines <= 60);
-        }
-        Due.holds("methods were looked at", methods > 80);
+        Due.is("all calls stand behind one of these", calls, FACE.length);
     }
 
     /** All calls of a run live in one room, so rows are made with the object and never later. */
