@@ -100,6 +100,9 @@ public final class LanguageTest extends TreePathScanner<Void, Void> {
     public static void main(String[] args) throws IOException {
         Path source = Path.of(args.length > 0 ? args[0] : "src/main/java/ReservoirMind.java");
         JavaCompiler compiler = ToolProvider.getSystemJavaCompiler();
+        if (compiler == null) {
+            throw new IllegalStateException("this java comes without javac; take the one that stands beside it");
+        }
         try (StandardJavaFileManager files = compiler.getStandardFileManager(null, null, null)) {
             JavacTask task = (JavacTask) compiler.getTask(null, files, null, List.of("--release", "17"), null,
                 files.getJavaFileObjects(source.toFile()));
